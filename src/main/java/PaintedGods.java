@@ -588,7 +588,7 @@ public final class PaintedGods {
         }
 
         private int thickOf(int stuff) {
-            return isStuff(stuff) ? thick[stuff] : 0;
+            return stuff >= 0 && stuff < STUFFS ? thick[stuff] : 0;
         }
 
         int upperLeft(int stack, int wear) {
@@ -671,7 +671,7 @@ public final class PaintedGods {
             }
         }
 
-        /** Whether a trace is so by a stack of its own cell; an edge asks for two cells, so it is looked at elsewhere. */
+        /** Whether a trace is so by a stack of its own cell; an edge asks for two cells, so it is none of these. */
         boolean isSo(int kind, int v, int side, int stack) {
             switch (kind) {
                 case GRAIN: return (grains[side][stack] >> v & 1) == 1;
@@ -1108,7 +1108,7 @@ public final class PaintedGods {
         }
 
         private int byteAt(int i) {
-            return within(i, 0, BYTES - 1) ? bytes[i] & 255 : 0;
+            return i >= 0 && i < BYTES ? bytes[i] & 255 : 0;
         }
 
         private static boolean isLetter(int b) {
