@@ -823,11 +823,11 @@ public final class ModelTest {
         }
         String spoils = "a;9 0Z\u00ff\0\nst1";
         for (int i = upTo(3) == 0 ? 1 + upTo(2) : 0; i > 0; i--) {
-            int place = upTo(t.length());
+            int place = upTo(t.length() + 1);
             if (upTo(2) == 0) {
                 t.insert(place, spoils.charAt(upTo(spoils.length())));
             } else {
-                t.setLength(upTo(4) == 0 ? place : t.length() - upTo(3));
+                t.setLength(upTo(4) == 0 ? place : Math.max(0, t.length() - upTo(3)));
             }
         }
         return t.toString();

@@ -385,6 +385,14 @@ public final class PromiseTest {
         fitsOnly(WORN, 0, 0, 1, 2, 5, 6, 9, 10);
         fitsOnly(EDGE, 400, 0, 1, 2, 5, 6, 9, 10);
         fitsOnly(CUT, 0, 1, 2, 5, 6, 9, 10);
+        PaintedGods y = two();
+        y.put(YEARS, 11);
+        y.trace(0, GRAIN, 1);
+        due("13 one grain is left above", y.fits(0, 6), 1);
+        due("13 one grain is left of one coat", y.fits(0, 2), 1);
+        y.put(YEARS, 12);
+        due("13 none is left above", y.fits(0, 6), 0);
+        due("13 but below", y.fits(0, 9), 1);
         PaintedGods x = two();
         x.habit(2, 0);
         due("13 a habit is no trace", x.fits(0, 2), 1);
@@ -554,6 +562,13 @@ public final class PromiseTest {
         y.habit(1, 0);
         y.habit(5, 0);
         due("19 no trace helps", y.later(3), -5);
+        for (int i = 0; i < 2; i++) {
+            PaintedGods w = one();
+            for (int cell = 8; cell < 10 + i; cell++) {
+                w.trace(cell, WORN, 11);
+            }
+            due("19 from the first trace on", w.later(1), i == 0 ? 3 : 7);
+        }
         PaintedGods z = one();
         z.trace(0, EDGE, 11);
         z.trace(0, EDGE, 1);

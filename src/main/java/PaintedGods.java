@@ -415,7 +415,7 @@ public final class PaintedGods {
         return upper == NONE ? groundOf(stack) : upper;
     }
 
-    // ALL can pass the greatest long, but not 64 bits: weights are read without a sign.
+    // ALL can pass the greatest long, but not 64 bits (189 * 261 to the 7th at most): it is read without a sign.
     private static boolean isLess(long a, long b) {
         return (a ^ 1L << 63) < (b ^ 1L << 63);
     }
@@ -877,7 +877,8 @@ public final class PaintedGods {
         }
 
         private int joint(int place, int here, int there) {
-            if (steps[place] != 0 && lost[place + 1][there] - lost[place][here] < steps[place]) {
+            if (place + 1 < PLACES && steps[place] != 0
+                    && lost[place + 1][there] - lost[place][here] < steps[place]) {
                 return 0;
             }
             return here == there ? like : 1;
@@ -921,7 +922,10 @@ public final class PaintedGods {
         }
 
         private long mostNext(int place, int stack, int before) {
-            return before == NONE ? most[place][stack] : most[place][stack] * joint(place - 1, before, stack);
+            if (place == 0 || before == NONE) {
+                return most[place][stack];
+            }
+            return most[place][stack] * joint(place - 1, before, stack);
         }
 
         /** Seeks the place and lamp with which it shines nearest to half of the weights. */
