@@ -10,6 +10,7 @@ public final class ModelTest {
     private static int wrong = 0;
     private static long calls = 0;
     private static long seed = 0;
+    private static int mostLimbs = 0;
 
     // ---- the model: rows as lists, whole numbers without a bound, no table kept between two calls
 
@@ -1063,6 +1064,38 @@ public final class ModelTest {
         }
     }
 
+    /** Where each hem's ALL is of its own at each TURN the fractions of STOOD have many limbs and little in common. */
+    private static void manyLimbs(int number) {
+        seed = number * 104729L + 5;
+        PaintedGods x = new PaintedGods();
+        Model m = new Model();
+        for (int i = 0; i < 4; i++) {
+            int thick = 6 + upTo(20), shines = 1 + upTo(15), least = 1 + upTo(3);
+            due("stuff", x.stuff(thick, i, shines, least), m.counted(Model.stuff(m.s, thick, i, shines, least)));
+        }
+        for (int stack = 0; stack < 21; stack++) {
+            int weight = 1 + upTo(9);
+            due("habit", x.habit(stack, weight), m.counted(Model.habit(m.s, stack, weight)));
+        }
+        for (int quarter = 0; quarter < 4; quarter++) {
+            due("put", x.put(quarter, quarter), m.counted(Model.put(m.s, quarter, quarter)));
+        }
+        int like = 2 + upTo(8), years = 4 + upTo(3);
+        due("put(6)", x.put(6, like), m.counted(Model.put(m.s, 6, like)));
+        due("put(4)", x.put(4, years), m.counted(Model.put(m.s, 4, years)));
+        for (int i = 0; i < 20; i++) {
+            int cell = i % 6 * 8 + i / 6 * 2 + upTo(2), kind = upTo(4), v = kind < 3 ? upTo(4) : upTo(10);
+            due("trace", x.trace(cell, kind, v), m.counted(Model.trace(m.s, cell, kind, v)));
+        }
+        for (int turn = 0; turn < 4; turn++) {
+            due("stood(" + turn + ")", x.stood(turn), m.stood(turn));
+            due("sign(1)", x.sign(1), m.sign(1));
+            due("digest()", x.digest(), m.digest());
+            mostLimbs = Math.max(mostLimbs, x.sign(2));
+        }
+        due("next()", x.next(), m.next());
+    }
+
     /** The model's own sums against each row written out, where there are few. */
     private static void checkModel() {
         State s = new State();
@@ -1106,6 +1139,10 @@ public final class ModelTest {
         int runs = args.length > 0 ? Integer.parseInt(args[0]) : 120;
         checkModel();
         greatest();
+        for (int number = 0; number < 12; number++) {
+            manyLimbs(number);
+        }
+        due("fractions of ten limbs and more", mostLimbs >= 10 ? 1 : 0, 1);
         for (int number = 0; number < runs && wrong < 20; number++) {
             run(number);
         }

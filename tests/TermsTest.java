@@ -548,6 +548,41 @@ public final class TermsTest {
         }
         due("8 of 21 are nearer to a half than 14", x.next(), 2);
         fraction("no turn told", x, x.stood(3), 1, 4);
+        x.put(YEARS, 10);
+        x.put(RAIN, 0);
+        x.trace(0, STANDS, 0);
+        fraction("a turn with 21 stacks, the others with 20 each", x, x.stood(0), 7, 27);
+        fraction("one of the others", x, x.stood(2), 20, 81);
+        x.aside(0, true);
+        x.put(YEARS, 0);
+        x.trace(8, CUT, 0);
+        due("8 of 20 are nearer to a half than 8 of 21", x.next(), 82);
+        x.trace(0, CUT, 0);
+        due("8 of 20 in both hems", x.next(), 2);
+        x.put(YEARS, 60);
+        x.put(RAIN, 1);
+        due("nothing shines, whatever ALL is", x.next(), 0);
+        x.aside(2, true);
+        due("nor with more in the first hem", x.next(), 0);
+        x.aside(1, true);
+        x.trace(0, CUT, 0);
+        due("nor with less", x.next(), 0);
+    }
+
+    private static void greatestDark() {
+        of("NEXT: of like ones the least CELL, then LAMP, though ALL of each HEM is another one, near the greatest");
+        for (int lost = 0; lost <= 21; lost++) {
+            PaintedGods x = with(10, 9, 0, 1, 13, 9, 0, 1, 17, 9, 0, 1, 19, 9, 0, 1);
+            x.put(LIKE, 9);
+            x.put(YEARS, 30);
+            for (int stack = 0; stack < 21; stack++) {
+                x.habit(stack, 9);
+            }
+            x.trace(0, STANDS, lost);
+            due("all is dark, " + lost + " lost in the first hem", x.next(), 0);
+            x.trace(8, STANDS, 21 - lost);
+            due("and " + (21 - lost) + " in the next one", x.next(), 0);
+        }
     }
 
     private static void odds() {
@@ -678,6 +713,8 @@ public final class TermsTest {
         due("one against nineteen, the first", laterOf("WSSSSSSSSSSSSSSSSSSS"), 1);
         due("two pairs: 1 and 2 are less than 0 and 3", laterOf("SWWS"), 6);
         due("two pairs: 0 and 1 are less than 2 and 3", laterOf("SSWW"), 3);
+        due("two of five, though three of them are less as bits", laterOf("SSSWW"), 24);
+        due("two of five, the first and the last", laterOf("WSSSW"), 17);
         due("two triples: 2, 3, 4 are less than 0, 1, 5", laterOf("SSWWWS"), 28);
         due("two triples: 0, 3, 4 are less than 1, 2, 5", laterOf("SWWSSW"), 25);
         due("three against seventeen", laterOf("SSSSSSSSWSSSSSSSSSWW"), 1 << 8 | 1 << 18 | 1 << 19);
@@ -1047,6 +1084,51 @@ public final class TermsTest {
         due("the other one was kept", y.from(0), NO);
     }
 
+    private static void imagesOfStuffs() {
+        of("IMAGES 0, 1 keep all: of STUFFS the four");
+        PaintedGods x = with(20, 3, 5, 7);
+        x.put(YEARS, 0);
+        x.image(0);
+        due("another stuff", told(x, "stuff 30 8 2 9;years 0;"), 2);
+        x.image(1);
+        for (int image = 0; image < 2; image++) {
+            due("from", x.from(image), 1);
+            due("THICK", x.left(0, 1, 0), image == 0 ? 20 : 30);
+            due("BRIGHT", x.bright(0, 0), image == 0 ? 3 : 8);
+            due("SHINES lamp 0", x.shines(0, 1, 0), image == 0 ? 1 : 0);
+            due("SHINES lamp 1", x.shines(0, 1, 1), image == 0 ? 0 : 1);
+            x.put(YEARS, image == 0 ? 13 : 21);
+            due("LEAST is left", x.shines(0, 1, image), 1);
+            x.put(YEARS, image == 0 ? 14 : 22);
+            due("less is left", x.shines(0, 1, image), 0);
+        }
+    }
+
+    private static void asideAnew() {
+        of("A TRACE may be set ASIDE: not so at first, where another one was ASIDE before, too");
+        PaintedGods x = new PaintedGods();
+        x.image(0);
+        x.trace(0, CUT, 0);
+        x.trace(1, CUT, 0);
+        x.aside(0, true);
+        x.aside(1, true);
+        due("told anew", told(x, "cut 0;"), 1);
+        due("by an item", x.count(2), 0);
+        due("by a call", x.trace(1, CUT, 0), 1);
+        due("none is aside", x.count(2), 0);
+        x.aside(0, true);
+        x.aside(1, true);
+        due("two are", x.count(2), 2);
+        due("from an image without them", x.from(0), 1);
+        due("no trace", x.trace(0, CUT, 0), 0);
+        due("none is aside now", x.count(2), 0);
+        x.aside(0, true);
+        x.stood(0);
+        due("an item after a call that asks", x.statue(), 1);
+        due("none of it is aside", x.count(2), 0);
+        due("it is not so", x.aside(0, false), NO);
+    }
+
     private static void zero() {
         of("THE FRACTION is 0 by 1 at first; lowest terms, below above 0");
         PaintedGods x = new PaintedGods();
@@ -1132,6 +1214,7 @@ public final class TermsTest {
         like();
         nothing();
         greatest();
+        greatestDark();
         odds();
         above();
         likeliest();
@@ -1154,6 +1237,8 @@ public final class TermsTest {
         anew();
         refusedItems();
         images();
+        imagesOfStuffs();
+        asideAnew();
         zero();
         limbs();
         calls();
